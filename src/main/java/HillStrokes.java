@@ -261,7 +261,7 @@ public final class HillStrokes {
             return FULL;
         }
         past.keep(now);
-        now.addStroke(cell);
+        now.sheet.add(now.ground, cell);
         return now.sheet.size - 1;
     }
 
@@ -282,7 +282,7 @@ public final class HillStrokes {
             if (cell == NOWHERE) {
                 break;
             }
-            now.addStroke(cell);
+            now.sheet.add(now.ground, cell);
         }
         return now.sheet.size - before;
     }
@@ -349,10 +349,6 @@ public final class HillStrokes {
         return n >= FEWEST_SHADES && n <= MOST_SHADES;
     }
 
-    private static boolean isNumber(int cell) {
-        return cell >= 0 && cell < CELLS;
-    }
-
     /** The heights, and what they alone say: slopes, ways down, tones by a light. */
     private static final class Ground {
         int columns;
@@ -386,11 +382,11 @@ public final class HillStrokes {
         }
 
         int height(int cell) {
-            return isNumber(cell) ? heights[cell] : 0;
+            return cell >= 0 && cell < CELLS ? heights[cell] : 0;
         }
 
         void setHeight(int cell, int v) {
-            if (isNumber(cell)) {
+            if (cell >= 0 && cell < CELLS) {
                 heights[cell] = v;
             }
         }
@@ -720,10 +716,6 @@ public final class HillStrokes {
                 return 3;
             }
             return sheet.isKeptOff(next) ? 0 : 4;
-        }
-
-        void addStroke(int cell) {
-            sheet.add(ground, cell);
         }
 
         int steepestBeginning() {

@@ -32,6 +32,7 @@ final class LanguageTest {
             due.holds("ruled out: " + word, !found.find());
         }
         methodsAreShort(code);
+        callsMakeNothing(code);
         due.end();
     }
 
@@ -102,6 +103,14 @@ final class LanguageTest {
         String text = Files.readString(Path.of("src/main/java/HillStrokes.java"));
         due.holds("signs beyond ASCII", text.chars().allMatch(c -> c < 127));
         return text.replaceAll("(?s)/\\*.*?\\*/", "").replaceAll("//[^\n]*", "").replaceAll("\"[^\"\n]*\"", "\"\"");
+    }
+
+    /** The room of a run is small, so objects and rows are made as fields are, and in constructors alone. */
+    private static void callsMakeNothing(String code) {
+        String constructors = "(?ms)^( +)(public )?(HillStrokes|Past)\\(\\) \\{.*?^\\1\\}";
+        String fields = "(?m)^ +(private )?final [\\w\\[\\]]+ \\w+ = new [^;]*;";
+        String rest = code.replaceAll(constructors, "").replaceAll(fields, "");
+        due.holds("something is made in a call", !Pattern.compile("\\bnew\\b|\\bclone\\b|StringBuilder").matcher(rest).find());
     }
 
     /** A method begins with a line that ends in ") {" at the depth of a class and ends with its brace. */

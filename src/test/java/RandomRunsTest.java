@@ -4,6 +4,8 @@ import java.util.Random;
 final class RandomRunsTest {
     private static final int RUNS = 400;
     private static final int CALLS = 512;
+    /** As many calls as a text can take to be written and laid. */
+    private static final int CALLS_OF_TEXT = 203;
     private static final int[] WILD = {Integer.MIN_VALUE, Integer.MIN_VALUE + 1, -65536, -100, -10, -5, -4, -3, -2, -1,
         7, 8, 9, 10, 11, 12, 19, 20, 21, 31, 127, 200, 65536, Integer.MAX_VALUE - 1, Integer.MAX_VALUE};
 
@@ -17,9 +19,10 @@ final class RandomRunsTest {
             random = new Random(run);
             program = new HillStrokes();
             plain = new PlainHills();
-            int calls = 0;
+            // Every second run has another ground from the beginning on.
+            int calls = run % 2 == 0 ? 0 : newText("run " + run + ": ");
             while (calls < CALLS && !due.hasWrong()) {
-                calls += step("run " + run + ", about call " + calls + ": ");
+                calls += step("run " + run + ", call " + (calls + 1) + ": ", CALLS - calls);
             }
         }
         due.end();
@@ -41,9 +44,10 @@ final class RandomRunsTest {
         return some(0, plain.count(1) - 1);
     }
 
-    private static int step(String at) {
+    /** How many calls were made, of those that are left. */
+    private static int step(String at, int left) {
         int kind = random.nextInt(60);
-        if (kind < 1) {
+        if (kind < 1 && left >= CALLS_OF_TEXT) {
             return newText(at);
         }
         if (kind < 20) {

@@ -1,8 +1,6 @@
 /** Promises 10 to 12: cell, flow, basin. */
 final class SlopesTest {
     private static final int BAD = HillStrokes.BAD, NONE = HillStrokes.NONE;
-    private static final int[] RIGHT = {0, 1, 1, 1, 0, -1, -1, -1};
-    private static final int[] LOWER = {-1, -1, 0, 1, 1, 1, 0, -1};
 
     private static final Due due = new Due();
 
@@ -19,20 +17,6 @@ final class SlopesTest {
         flows();
         basins();
         due.end();
-    }
-
-    /** A ground of 3 by 3 whose middle is told, the others all like, but for changes {x, y, height}. */
-    private static HillStrokes ring(int middle, int others, int[]... changes) {
-        HillStrokes h = Due.laid("g33;" + ("r" + ("" + others).repeat(3) + ";").repeat(3));
-        h.raise(1, 1, middle);
-        for (int[] c : changes) {
-            h.raise(c[0], c[1], c[2]);
-        }
-        return h;
-    }
-
-    private static int[] beside(int d, int height) {
-        return new int[] {1 + RIGHT[d], 1 + LOWER[d], height};
     }
 
     private static void badCells() {
@@ -76,38 +60,38 @@ final class SlopesTest {
         due.is("down of a pit", h.cell(0, 0, 4), NONE);
         due.is("down of the lowest", h.cell(1, 2, 4), NONE);
         for (int d = 0; d < 8; d++) {
-            due.is("down alone " + d, ring(5, 5, beside(d, 4)).cell(1, 1, 4), d);
-            due.is("up alone " + d, ring(5, 5, beside(d, 6)).cell(1, 1, 4), NONE);
+            due.is("down alone " + d, Grounds.ring(5, 5, Grounds.beside(d, 4)).cell(1, 1, 4), d);
+            due.is("up alone " + d, Grounds.ring(5, 5, Grounds.beside(d, 6)).cell(1, 1, 4), NONE);
             for (int e = d + 1; e < 8; e++) {
                 int dFall = d % 2 == 0 ? 3 : 2;
                 int eFall = e % 2 == 0 ? 3 : 2;
-                due.is("down of " + d + " and " + e, ring(5, 5, beside(d, 4), beside(e, 4)).cell(1, 1, 4),
+                due.is("down of " + d + " and " + e, Grounds.ring(5, 5, Grounds.beside(d, 4), Grounds.beside(e, 4)).cell(1, 1, 4),
                     eFall > dFall ? e : d);
             }
         }
-        due.is("6 and 6, the lowest", ring(3, 9, beside(1, 0), beside(2, 1)).cell(1, 1, 4), 1);
-        due.is("6 and 6, the lowest again", ring(3, 9, beside(0, 1), beside(1, 0)).cell(1, 1, 4), 0);
-        due.is("6 ahead of 3", ring(3, 9, beside(0, 2), beside(3, 0)).cell(1, 1, 4), 3);
-        due.is("6 ahead of 4", ring(3, 9, beside(4, 1), beside(3, 1)).cell(1, 1, 4), 4);
-        due.is("all like", ring(9, 0).cell(1, 1, 4), 0);
+        due.is("6 and 6, the lowest", Grounds.ring(3, 9, Grounds.beside(1, 0), Grounds.beside(2, 1)).cell(1, 1, 4), 1);
+        due.is("6 and 6, the lowest again", Grounds.ring(3, 9, Grounds.beside(0, 1), Grounds.beside(1, 0)).cell(1, 1, 4), 0);
+        due.is("6 ahead of 3", Grounds.ring(3, 9, Grounds.beside(0, 2), Grounds.beside(3, 0)).cell(1, 1, 4), 3);
+        due.is("6 ahead of 4", Grounds.ring(3, 9, Grounds.beside(4, 1), Grounds.beside(3, 1)).cell(1, 1, 4), 4);
+        due.is("all like", Grounds.ring(9, 0).cell(1, 1, 4), 0);
     }
 
     private static void ridgesAndRivers() {
         for (int d = 0; d < 8; d++) {
             for (int e = d + 1; e < 8; e++) {
                 int opposite = e == d + 4 ? 1 : 0;
-                HillStrokes ridge = ring(5, 5, beside(d, 4), beside(e, 4));
+                HillStrokes ridge = Grounds.ring(5, 5, Grounds.beside(d, 4), Grounds.beside(e, 4));
                 due.is("ridge " + d + " " + e, ridge.cell(1, 1, 5), opposite);
                 due.is("no river " + d + " " + e, ridge.cell(1, 1, 6), 0);
-                HillStrokes river = ring(5, 5, beside(d, 6), beside(e, 6));
+                HillStrokes river = Grounds.ring(5, 5, Grounds.beside(d, 6), Grounds.beside(e, 6));
                 due.is("river " + d + " " + e, river.cell(1, 1, 6), opposite);
                 due.is("no ridge " + d + " " + e, river.cell(1, 1, 5), 0);
-                HillStrokes slope = ring(5, 5, beside(d, 4), beside(e, 6));
+                HillStrokes slope = Grounds.ring(5, 5, Grounds.beside(d, 4), Grounds.beside(e, 6));
                 due.is("slope, no ridge " + d + " " + e, slope.cell(1, 1, 5), 0);
                 due.is("slope, no river " + d + " " + e, slope.cell(1, 1, 6), 0);
             }
         }
-        HillStrokes saddle = ring(5, 5, beside(2, 4), beside(6, 4), beside(0, 6), beside(4, 6));
+        HillStrokes saddle = Grounds.ring(5, 5, Grounds.beside(2, 4), Grounds.beside(6, 4), Grounds.beside(0, 6), Grounds.beside(4, 6));
         due.is("a saddle is a ridge", saddle.cell(1, 1, 5), 1);
         due.is("and a river", saddle.cell(1, 1, 6), 1);
     }
@@ -158,23 +142,23 @@ final class SlopesTest {
 
     private static void tonesOfRidgesAndRivers() {
         // Higher than those above and below, and EAST is -9.
-        HillStrokes ridge = ring(5, 5, beside(0, 4), beside(4, 4), beside(6, 9), beside(2, 0));
+        HillStrokes ridge = Grounds.ring(5, 5, Grounds.beside(0, 4), Grounds.beside(4, 4), Grounds.beside(6, 9), Grounds.beside(2, 0));
         ridge.light(3, 2);
         due.is("a lighter ridge", ridge.cell(1, 1, 8), 109);
         ridge.light(3, 6);
         due.is("a ridge is 4 at least", ridge.cell(1, 1, 8), 104);
         ridge.light(3, 0);
         due.is("a ridge is 4, not 0", ridge.cell(1, 1, 8), 104);
-        HillStrokes river = ring(5, 5, beside(0, 6), beside(4, 6), beside(6, 9), beside(2, 0));
+        HillStrokes river = Grounds.ring(5, 5, Grounds.beside(0, 6), Grounds.beside(4, 6), Grounds.beside(6, 9), Grounds.beside(2, 0));
         river.light(3, 2);
         due.is("a river is -4 at most", river.cell(1, 1, 8), 96);
         river.light(3, 6);
         due.is("a darker river", river.cell(1, 1, 8), 91);
         river.light(3, 4);
         due.is("a river is -4, not 0", river.cell(1, 1, 8), 96);
-        HillStrokes both = ring(5, 5, beside(2, 4), beside(6, 4), beside(0, 6), beside(4, 6));
+        HillStrokes both = Grounds.ring(5, 5, Grounds.beside(2, 4), Grounds.beside(6, 4), Grounds.beside(0, 6), Grounds.beside(4, 6));
         due.is("one that is both is dark", both.cell(1, 1, 8), 96);
-        HillStrokes light = ring(5, 5, beside(1, 6), beside(5, 6), beside(0, 4), beside(4, 4), beside(6, 9), beside(2, 0));
+        HillStrokes light = Grounds.ring(5, 5, Grounds.beside(1, 6), Grounds.beside(5, 6), Grounds.beside(0, 4), Grounds.beside(4, 4), Grounds.beside(6, 9), Grounds.beside(2, 0));
         light.light(3, 2);
         due.is("both, of tone 9", light.cell(1, 1, 8), 96);
         light.light(3, 6);

@@ -76,13 +76,13 @@ final class StrokesTest {
     private static void drawingRefused() {
         HillStrokes h = Due.laid(SLOPE);
         h.draw(6, 1);
-        String before = Due.everything(h);
+        String before = Due.state(h);
         due.is("from a pit", h.draw(8, 0), NO);
         due.is("beside", h.draw(5, 0), NO);
         due.is("the next beside", h.draw(4, 0), NO);
         due.is("on the stroke", h.draw(6, 1), NO);
         due.is("nowhere", h.draw(9, 0), BAD);
-        due.holds("nothing changes", before.equals(Due.everything(h)));
+        due.holds("nothing changes", before.equals(Due.state(h)));
         HillStrokes river = Due.laid("g33;r565;r555;r564;");
         due.is("from a river", river.draw(1, 1), NO);
     }

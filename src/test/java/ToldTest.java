@@ -47,7 +47,7 @@ final class ToldTest {
         due.is("new: whose", h.whose(3, 3), NONE);
         HillStrokes told = Due.laid(FIRST);
         told.wipe();
-        due.holds("new is as the first text laid", Due.everything(told).equals(Due.everything(h)));
+        due.holds("new is as the first text laid", Due.state(told).equals(Due.state(h)));
         h.raise(0, 0, 9);
         due.is("another object is another", new HillStrokes().cell(0, 0, 0), 0);
     }
@@ -114,9 +114,9 @@ final class ToldTest {
         fault("g53;r000;", 4);
         fault("g53;r00000;r00000;r00000;r00000;", 25);
         HillStrokes h = Due.written("g33;r123;");
-        String before = Due.everything(h);
+        String before = Due.state(h);
         h.fault();
-        due.holds("fault changes nothing", before.equals(Due.everything(h)));
+        due.holds("fault changes nothing", before.equals(Due.state(h)));
         due.is("fault anew", h.fault(), NONE);
         Due.write(h, "r");
         due.is("fault of what is not ended", h.fault(), 9);
@@ -161,13 +161,13 @@ final class ToldTest {
         HillStrokes h = new HillStrokes();
         h.draw(3, 3);
         h.light(0, 3);
-        String before = Due.everything(h);
+        String before = Due.state(h);
         due.is("lay without a g", h.lay(), NO);
-        due.holds("nothing changes", before.equals(Due.everything(h)));
+        due.holds("nothing changes", before.equals(Due.state(h)));
         Due.write(h, "g33;r111;s9;");
         due.is("lay with a fault", h.lay(), NO);
         h.wipe();
-        due.holds("nothing changes with a fault", before.equals(Due.everything(h)));
+        due.holds("nothing changes with a fault", before.equals(Due.state(h)));
         due.is("the changes stay", h.undo(), 1);
     }
 
@@ -209,11 +209,11 @@ final class ToldTest {
         due.is("it is so", h.raise(2, 8, 7), NO);
         int[][] bad = {{3, 0, 1}, {0, 9, 1}, {-1, 0, 1}, {0, -1, 1}, {8, 2, 1}, {0, 0, 10}, {0, 0, -1},
             {3, 0, 0}, {Integer.MIN_VALUE, 0, 1}, {0, Integer.MAX_VALUE, 1}, {0, 0, Integer.MIN_VALUE}};
-        String before = Due.everything(h);
+        String before = Due.state(h);
         for (int[] c : bad) {
             due.is("raise " + c[0] + " " + c[1] + " " + c[2], h.raise(c[0], c[1], c[2]), BAD);
         }
-        due.holds("nothing changes", before.equals(Due.everything(h)));
+        due.holds("nothing changes", before.equals(Due.state(h)));
         due.is("changes", h.count(8), 3);
     }
 
@@ -315,13 +315,13 @@ final class ToldTest {
             HillStrokes h = new HillStrokes();
             h.draw(1, 2);
             h.draw(3, 0);
-            String before = Due.everything(h);
+            String before = Due.state(h);
             due.is("two changes", h.count(8), 2);
             change(h, kind);
             due.is("a change of kind " + kind, h.count(8), 3);
-            due.holds("kind " + kind + " changes something", !before.equals(Due.everything(h)));
+            due.holds("kind " + kind + " changes something", !before.equals(Due.state(h)));
             due.is("undone " + kind, h.undo(), 2);
-            due.holds("kind " + kind + " is undone whole", before.equals(Due.everything(h)));
+            due.holds("kind " + kind + " is undone whole", before.equals(Due.state(h)));
             due.is("lights are undone " + kind, h.light(2, 0), NO);
         }
     }

@@ -9,12 +9,10 @@ import java.util.Set;
 import java.util.TreeSet;
 import java.util.regex.Matcher;
 import java.util.regex.Pattern;
+import java.util.stream.Collectors;
 
 /** The public face, the constants, and the rules of LANGUAGE.md that can be seen from the text or the class. */
 final class LanguageTest {
-    private static final String[] FACE = {"write 1", "wipe 0", "fault 0", "lay 0", "raise 3", "light 2", "shades 1",
-        "undo 0", "cell 3", "flow 3", "basin 2", "contrast 2", "best 1", "turn 0", "shade 1", "error 1", "level 2",
-        "why 2", "draw 2", "rub 1", "hatch 0", "stroke 2", "whose 2", "count 1"};
     private static final String[] RULED_OUT = {"\\bthrow\\b", "\\bthrows\\b", "\\btry\\b", "\\bcatch\\b",
         "\\bsynchronized\\b", "\\bassert\\b", "->", "::", "\\w+Exact\\b", "\\bpackage\\b", "\\bimport\\b", "\\bprotected\\b",
         "\\bObject\\b", "\\bSystem\\.(?!arraycopy)\\w+", "\\bstatic\\s*\\{", "\\bnative\\b", "\\bvolatile\\b",
@@ -54,21 +52,40 @@ final class LanguageTest {
         due.holds("the constants are " + seen, seen.equals(Set.of("BAD", "NO", "FULL", "NONE", "ZERO")));
     }
 
-    private static void face() {
+    /** The calls as the document's face has them, told by their names and the types of what they take. */
+    private static Set<String> faceOfTheDocument() throws IOException {
+        String text = Files.readString(Path.of("../shared/DOC.md"));
+        int begin = text.indexOf("## The public face");
+        Matcher call = Pattern.compile("public int (\\w+)\\(([^)]*)\\);").matcher(text.substring(begin, text.indexOf("## Terms")));
+        Set<String> calls = new TreeSet<>();
+        while (call.find()) {
+            calls.add(call.group(1) + "(" + call.group(2).replaceAll(" \\w+(?=,|$)", "") + ")");
+        }
+        return calls;
+    }
+
+    private static String told(Method method) {
+        return Arrays.stream(method.getParameterTypes()).map(Class::getName)
+            .collect(Collectors.joining(", ", method.getName() + "(", ")"));
+    }
+
+    private static void face() throws IOException {
         due.holds("the class is public and final",
             Modifier.isPublic(HillStrokes.class.getModifiers()) && Modifier.isFinal(HillStrokes.class.getModifiers()));
         due.is("constructors", HillStrokes.class.getDeclaredConstructors().length, 1);
+        due.is("public constructors", HillStrokes.class.getConstructors().length, 1);
         Set<String> names = new TreeSet<>();
         Set<String> seen = new TreeSet<>();
         for (Method method : HillStrokes.class.getDeclaredMethods()) {
             if (!Modifier.isPrivate(method.getModifiers())) {
                 due.holds(method + " is public, of int", Modifier.isPublic(method.getModifiers())
                     && !Modifier.isStatic(method.getModifiers()) && method.getReturnType() == int.class);
-                seen.add(method.getName() + " " + method.getParameterCount());
+                seen.add(told(method));
                 names.add(method.getName());
             }
         }
-        due.holds("the face is " + seen, seen.equals(new TreeSet<>(Arrays.asList(FACE))));
+        due.is("calls of the face", seen.size(), 24);
+        due.holds("the face is " + seen, seen.equals(faceOfTheDocument()));
         privateNames(HillStrokes.class, names);
         for (Class<?> inside : HillStrokes.class.getDeclaredClasses()) {
             privateNames(inside, names);
